@@ -897,13 +897,15 @@ public final class PeerMarks {
     /** The order with the least quarrel, kept until a mark changes. */
     private static final class Orders {
         private static final int SETS = 1 << MOST_PUPILS;
+        private static final int BYTE = 8;
 
         final House house;
         final MarkBook book;
-        /** How many pupils turn two works, if the one of the row stands ahead of the other. */
-        final int[][] turns = new int[MOST_PUPILS][MOST_PUPILS];
-        /** By works and sets: how often a work is turned with those of a set, if it is ahead of them. */
-        final int[][] toll = new int[MOST_PUPILS][SETS];
+        /**
+         * By sets: how often each work is turned with those of a set, if it is ahead of them; byte w
+         * for work w, so that one sum serves all works. No byte spills: 7 pupils turn it with 7 works.
+         */
+        final long[] tolls = new long[SETS];
         /** By sets: the least quarrel within a set. */
         final int[] least = new int[SETS];
         final int[] row = new int[MOST_PUPILS];
@@ -981,8 +983,7 @@ public final class PeerMarks {
 
         /** Writes the order without the marks of one pupil (NONE: with all), and answers its quarrel. */
         private int findOrder(int without, int[] into) {
-            countTurns(without);
-            countTolls();
+            countTolls(without);
             findLeast();
             int rest = (1 << house.size) - 1;
             int fewest = least[rest];
@@ -993,30 +994,29 @@ public final class PeerMarks {
             return fewest;
         }
 
-        private void countTurns(int without) {
-            for (int a = 0; a < house.size; a++) {
-                for (int b = 0; b < house.size; b++) {
-                    turns[a][b] = 0;
-                    for (int p = 0; p < house.size; p++) {
-                        if (p != without && turnsTwo(p, a, b)) {
-                            turns[a][b]++;
-                        }
-                    }
+        private void countTolls(int without) {
+            tolls[0] = 0;
+            for (int w = 0; w < house.size; w++) {
+                int bit = 1 << w;
+                long more = tollsWith(w, without);
+                for (int lesser = 0; lesser < bit; lesser++) {
+                    tolls[bit | lesser] = tolls[lesser] + more;
                 }
             }
         }
 
-        private void countTolls() {
-            for (int w = 0; w < house.size; w++) {
-                int[] tolls = toll[w];
-                tolls[0] = 0;
-                for (int u = 0; u < house.size; u++) {
-                    int bit = 1 << u;
-                    for (int lesser = 0; lesser < bit; lesser++) {
-                        tolls[bit | lesser] = tolls[lesser] + turns[w][u];
+        private long tollsWith(int behind, int without) {
+            long sum = 0;
+            for (int p = 0; p < house.size; p++) {
+                if (p != without) {
+                    for (int ahead = 0; ahead < house.size; ahead++) {
+                        if (turnsTwo(p, ahead, behind)) {
+                            sum += 1L << BYTE * ahead;
+                        }
                     }
                 }
             }
+            return sum;
         }
 
         private void findLeast() {
@@ -1034,7 +1034,7 @@ public final class PeerMarks {
 
         private int quarrelIfAhead(int w, int set) {
             int others = set & ~(1 << w);
-            return least[others] + toll[w][others];
+            return least[others] + (int) (tolls[others] >> BYTE * w & 255);
         }
 
         /** The least work that can stand ahead of a set's others at the least quarrel. */
