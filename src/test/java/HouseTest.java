@@ -26,16 +26,16 @@ final class HouseTest {
     }
 
     private static void objectsStandApart() {
+        String before = Look.at(new PeerMarks());
         PeerMarks x = new PeerMarks();
         PeerMarks y = new PeerMarks();
-        String before = Look.at(y);
         x.pupils(5);
         x.rule(0, 1);
         x.mark(0, 1, 7);
         CHECK.isTrue("another object stays as it was", before.equals(Look.at(y)));
     }
 
-    private static void pupils() {
+    private static PeerMarks eight() {
         PeerMarks x = new PeerMarks();
         CHECK.due("pupils(8)", x.pupils(8), 2);
         x.friends(0, 7, true);
@@ -45,11 +45,15 @@ final class HouseTest {
         x.rule(0, 3);
         x.rule(1, 7);
         x.rule(2, 0);
-        String before = Look.at(x);
+        return x;
+    }
+
+    private static void pupils() {
+        PeerMarks x = eight();
         for (int n : new int[] {Integer.MIN_VALUE, -1, 0, 1, 9, Integer.MAX_VALUE}) {
             CHECK.due("pupils(" + n + ")", x.pupils(n), PeerMarks.OUTSIDE);
         }
-        CHECK.isTrue("a refused pupils changes nothing", before.equals(Look.at(x)));
+        CHECK.isTrue("a refused pupils changes nothing", Look.at(eight()).equals(Look.at(x)));
         CHECK.due("pupils(2)", x.pupils(2), 8);
         CHECK.due("pupils(8) again", x.pupils(8), 2);
         for (int what : new int[] {1, 2, 3, 6}) {
@@ -85,7 +89,17 @@ final class HouseTest {
         CHECK.due("friends(1, 3, false)", x.friends(1, 3, false), 0);
         CHECK.due("one pair left", x.count(6), 1);
         CHECK.due("may(1)", x.may(1), 0b1001);
-        String before = Look.at(x);
+    }
+
+    private static PeerMarks twoFriends() {
+        PeerMarks x = new PeerMarks();
+        x.pupils(4);
+        x.friends(2, 1, true);
+        return x;
+    }
+
+    private static void wrongFriends() {
+        PeerMarks x = twoFriends();
         CHECK.due("friends(0, 0, true)", x.friends(0, 0, true), PeerMarks.NOT);
         CHECK.due("friends(3, 3, false)", x.friends(3, 3, false), PeerMarks.NOT);
         CHECK.due("friends(4, 4, true)", x.friends(4, 4, true), PeerMarks.UNKNOWN);
@@ -93,7 +107,7 @@ final class HouseTest {
             CHECK.due("friends(" + k + ", 0, true)", x.friends(k, 0, true), PeerMarks.UNKNOWN);
             CHECK.due("friends(0, " + k + ", true)", x.friends(0, k, true), PeerMarks.UNKNOWN);
         }
-        CHECK.isTrue("refused friends change nothing", before.equals(Look.at(x)));
+        CHECK.isTrue("refused friends change nothing", Look.at(twoFriends()).equals(Look.at(x)));
     }
 
     private static void rule() {
@@ -148,6 +162,7 @@ final class HouseTest {
         pupils();
         asManyPupilsAgain();
         friends();
+        wrongFriends();
         rule();
         rulesOutliveFriendsAndMarks();
         may();

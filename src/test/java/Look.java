@@ -1,4 +1,4 @@
-/** All that an object tells, as a text: two that are alike have the same. */
+/** All that an object tells, as a text: two that are alike have the same. Some 260 of an object's 512 calls. */
 final class Look {
     private Look() {
     }
@@ -14,6 +14,12 @@ final class Look {
         tell(text, "digest", x.digest());
         for (int k = 0; k < 8; k++) {
             tellOf(text, x, k);
+        }
+        for (int what = 0; what < 3; what++) {
+            // 1 is within the bounds of all three
+            int was = x.rule(what, 1);
+            x.rule(what, was);
+            tell(text, "rule", was);
         }
         return text.toString();
     }

@@ -26,12 +26,16 @@ final class MarksTest {
         CHECK.due("mark(1, 2, 6)", x.mark(1, 2, 6), 5);
     }
 
-    private static void wrongMarks() {
+    private static PeerMarks marked() {
         PeerMarks x = house(3);
         x.mark(0, 1, 40);
         x.mark(2, 1, 80);
         x.staff(1, 9);
-        String before = Look.at(x);
+        return x;
+    }
+
+    private static void wrongMarks() {
+        PeerMarks x = marked();
         for (int k : WRONG) {
             CHECK.due("mark(" + k + ", 0, 5)", x.mark(k, 0, 5), PeerMarks.UNKNOWN);
             CHECK.due("mark(0, " + k + ", 5)", x.mark(0, k, 5), PeerMarks.UNKNOWN);
@@ -46,7 +50,7 @@ final class MarksTest {
         }
         CHECK.due("mark(2, 2, 5)", x.mark(2, 2, 5), PeerMarks.NOT);
         CHECK.due("mark(2, 2, -1)", x.mark(2, 2, -1), PeerMarks.NOT);
-        CHECK.isTrue("refused marks change nothing", before.equals(Look.at(x)));
+        CHECK.isTrue("refused marks change nothing", Look.at(marked()).equals(Look.at(x)));
     }
 
     private static void staff() {
