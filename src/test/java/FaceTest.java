@@ -5,6 +5,10 @@ import java.lang.reflect.Method;
 import java.lang.reflect.Modifier;
 import java.nio.file.Files;
 import java.nio.file.Path;
+import java.util.ArrayList;
+import java.util.LinkedHashMap;
+import java.util.List;
+import java.util.Map;
 import java.util.Set;
 import java.util.TreeSet;
 import java.util.regex.Matcher;
@@ -13,26 +17,32 @@ import java.util.regex.Pattern;
 /** The public face of the document, and rules of LANGUAGE.md that can be seen in the class and its text. */
 final class FaceTest {
     private static final Check CHECK = new Check("FaceTest");
-    private static final Set<String> FACE = Set.of(
-            "public int pupils(int)", "public int friends(int,int,boolean)", "public int rule(int,int)",
-            "public int may(int)", "public int plan(int)", "public int shared(int)", "public int lack()",
-            "public int parts()", "public int mark(int,int,int)", "public int staff(int,int)",
-            "public int count(int)", "public int piece(int,int)", "public long worth(int,int)",
-            "public long lean(int,int)", "public long left(int,int,int)", "public int order(int)",
-            "public int quarrel()", "public int turned(int)", "public int moves(int)",
-            "public int spread(int)", "public int next(int)", "public int digest()");
+    private static final Pattern HEADING_OR_CALL =
+            Pattern.compile("(?m)^    (?:// (---- .*)|public (?:int|long) (\\w+)\\(.*)$");
     private static final Pattern NOT_OURS = Pattern.compile(
             "\\b(throw|throws|try|catch|synchronized|assert|static\\s*\\{|import (?!java\\.util\\.Arrays;))|->|::"
             + "|\\w+Exact\\b|\\b(Random|System\\.(?!arraycopy)|Thread|Object|double|float)\\b");
 
-    private static void constants() {
+    private static void constants(Document document) {
         CHECK.due("NONE", PeerMarks.NONE, -1);
         CHECK.due("UNKNOWN", PeerMarks.UNKNOWN, -1001);
         CHECK.due("OUTSIDE", PeerMarks.OUTSIDE, -1002);
         CHECK.due("NOT", PeerMarks.NOT, -1003);
+        CHECK.isTrue("the document has just these", document.face().get(0).equals(
+                "public static final int NONE = -1, UNKNOWN = -1001, OUTSIDE = -1002, NOT = -1003;"));
+        CHECK.isTrue("and the constructor", document.face().get(1).equals("public PeerMarks();"));
     }
 
-    private static void members() {
+    /** The calls of the document, in the form in which Java tells of methods. */
+    private static Set<String> callsOf(Document document) {
+        Set<String> calls = new TreeSet<>();
+        for (String line : document.face().subList(2, document.face().size())) {
+            calls.add(line.replaceAll(" \\w+(?=[,)])", "").replace(", ", ",").replace(";", ""));
+        }
+        return calls;
+    }
+
+    private static void members(Document document) {
         Set<String> found = new TreeSet<>();
         Set<String> names = new TreeSet<>();
         for (Method m : PeerMarks.class.getDeclaredMethods()) {
@@ -41,7 +51,8 @@ final class FaceTest {
                 names.add(m.getName());
             }
         }
-        CHECK.isTrue("the public methods are the face: " + found, found.equals(FACE));
+        CHECK.due("how many calls there are", found.size(), 22);
+        CHECK.isTrue("the public methods are the face: " + found, found.equals(callsOf(document)));
         for (Method m : PeerMarks.class.getDeclaredMethods()) {
             boolean open = Modifier.isPublic(m.getModifiers());
             CHECK.isTrue(m + " is public or private", open || Modifier.isPrivate(m.getModifiers()));
@@ -77,8 +88,23 @@ final class FaceTest {
         }
     }
 
-    private static void text() throws IOException {
-        String whole = Files.readString(Path.of("src/main/java/PeerMarks.java"));
+    /** "Ahead of the calls .. the interface says": the same headings stand ahead of the same calls. */
+    private static void headings(Document document, String whole) {
+        Map<String, List<String>> found = new LinkedHashMap<>();
+        String heading = "";
+        Matcher m = HEADING_OR_CALL.matcher(whole);
+        while (m.find()) {
+            if (m.group(1) != null) {
+                heading = m.group(1);
+            } else {
+                found.computeIfAbsent(heading, h -> new ArrayList<>()).add(m.group(2));
+            }
+        }
+        CHECK.due("how many headings there are", found.size(), 6);
+        CHECK.isTrue("the headings are those of the interface: " + found, found.equals(document.headings()));
+    }
+
+    private static void text(String whole) {
         String code = whole.replaceAll("(?s)/\\*.*?\\*/", "").replaceAll("//[^\n]*", "");
         Matcher m = NOT_OURS.matcher(code);
         while (m.find()) {
@@ -88,10 +114,13 @@ final class FaceTest {
     }
 
     public static void main(String[] args) throws IOException {
-        constants();
-        members();
+        Document document = new Document();
+        String whole = Files.readString(Path.of("src/main/java/PeerMarks.java"));
+        constants(document);
+        members(document);
         classesInside();
-        text();
+        headings(document, whole);
+        text(whole);
         CHECK.end();
     }
 }

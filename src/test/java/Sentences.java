@@ -1,6 +1,3 @@
-import java.io.IOException;
-import java.nio.file.Files;
-import java.nio.file.Path;
 import java.util.Arrays;
 import java.util.function.Supplier;
 import java.util.function.ToLongFunction;
@@ -11,55 +8,55 @@ import java.util.function.ToLongFunction;
  * without a test, and a document that changes is noticed.
  */
 final class Sentences {
-    private static final int PROMISES = 23;
+    private static final int TERMS = 0, OPENING = Document.PROMISES + 1, SECTIONS = OPENING + 1;
 
     private final Check check = new Check("BoundsTest");
-    /** The section "Terms", then the promises by their numbers. */
-    private final String[] texts = new String[PROMISES + 1];
-    private final boolean[][] quoted = new boolean[PROMISES + 1][];
+    /** The section "Terms", then the promises by their numbers, then "What it is". */
+    private final String[] texts = new String[SECTIONS];
+    private final boolean[][] quoted = new boolean[SECTIONS][];
     private String sentence = "";
     private int answers = 1;
 
-    Sentences(Path document) throws IOException {
-        String whole = Files.readString(document);
-        texts[0] = whatTermsSay(sectionOf(whole, "Terms"));
-        for (int k = 1; k <= PROMISES; k++) {
-            texts[k] = sectionOf(whole, "Promise " + k + ":").replaceFirst("(?s)^.*?`[^`]*`:", "");
+    Sentences(Document document) {
+        texts[TERMS] = whatTermsSay(document.section("Terms"));
+        texts[OPENING] = document.section("What it is");
+        for (int k = 1; k <= Document.PROMISES; k++) {
+            texts[k] = document.promise(k).replaceFirst("(?s)^.*?`[^`]*`:", "");
         }
-        for (int k = 0; k <= PROMISES; k++) {
+        for (int k = 0; k < SECTIONS; k++) {
             texts[k] = texts[k].replaceAll("\\s+", " ");
             quoted[k] = new boolean[texts[k].length()];
         }
     }
 
-    private static String sectionOf(String whole, String title) {
-        int start = whole.indexOf("\n## " + title);
-        if (start < 0) {
-            throw new IllegalStateException("the document has no section " + title);
-        }
-        int end = whole.indexOf("\n## ", start + 1);
-        return whole.substring(start + 4 + title.length(), end < 0 ? whole.length() : end);
-    }
-
-    /** Without what is there for the eye alone, and the headings of the interface. */
+    /** Without what is there for the eye alone, and the headings of the interface, which FaceTest looks at. */
     private static String whatTermsSay(String section) {
         return section.replaceAll("(?m)^(```\\w*|Ahead of the calls .*)$", "").replaceAll("======== \\d", "");
     }
 
+    /** What is looked at from now on is due by these words of the section "What it is". */
+    void opening(String words) {
+        begin(OPENING, words);
+    }
+
     /** What is looked at from now on is due by these words of the section "Terms". */
     void terms(String words) {
-        begin(0, "Terms", words);
+        begin(TERMS, words);
     }
 
     /** What is looked at from now on is due by these words of a promise. */
     void promise(int k, String words) {
-        begin(k, "promise " + k, words);
+        begin(k, words);
     }
 
-    private void begin(int section, String name, String words) {
+    private static String nameOf(int section) {
+        return section == TERMS ? "Terms" : section == OPENING ? "What it is" : "promise " + section;
+    }
+
+    private void begin(int section, String words) {
         check.isTrue(sentence + " has an answer that is looked at", answers > 0);
         answers = 0;
-        sentence = name + ", \"" + words + "\": ";
+        sentence = nameOf(section) + ", \"" + words + "\": ";
         int at = texts[section].indexOf(words);
         check.isTrue(sentence + "stands in the document", at >= 0);
         // words that come twice are two sentences: the second quotation is that of the second place
@@ -99,10 +96,9 @@ final class Sentences {
     }
 
     void end() {
-        begin(0, "Terms", "");
-        for (int k = 0; k <= PROMISES; k++) {
-            check.isTrue((k == 0 ? "Terms" : "promise " + k) + " has words that no test quotes: "
-                    + wordsLeft(k), wordsLeft(k).isEmpty());
+        begin(TERMS, "");
+        for (int k = 0; k < SECTIONS; k++) {
+            check.isTrue(nameOf(k) + " has words that no test quotes: " + wordsLeft(k), wordsLeft(k).isEmpty());
         }
         check.end();
     }
